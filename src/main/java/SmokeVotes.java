@@ -107,9 +107,9 @@ public final class SmokeVotes {
     // ---- voters
 
     public int voter(int kind, int likes, int party, int faith) {
-        boolean fits = isWithin(kind, 0, KINDS - 1) && isWithin(likes, 0, MOST_VOTERS - 1)
+        boolean right = isWithin(kind, 0, KINDS - 1) && isWithin(likes, 0, MOST_VOTERS - 1)
                 && isWithin(party, 0, PARTIES - 1) && isWithin(faith, 0, MOST_FAITH);
-        if (!fits) {
+        if (!right) {
             return BAD;
         }
         if (now.voters >= MOST_VOTERS) {

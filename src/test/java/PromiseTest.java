@@ -99,6 +99,15 @@ public final class PromiseTest {
         return liking(0, 1);
     }
 
+    /** Ten of one party, all for the first one from the first round on. */
+    private static SmokeVotes tenLoyal() {
+        SmokeVotes x = new SmokeVotes();
+        for (int i = 0; i < 10; i++) {
+            x.voter(1, 9, 0, 0);
+        }
+        return x;
+    }
+
     private static void feedAll(SmokeVotes x, String text) {
         x.trim(0);
         for (int i = 0; i < text.length(); i += 12) {
@@ -258,6 +267,13 @@ public final class PromiseTest {
         due("swayed by a later text", x.told(3, 7), 3);
         tellText(x, "sway 0 - 5000");
         due("what sway gives is 0 at least", x.told(3, 7), 0);
+        x.set(3, 1, 2);
+        SmokeVotes y = liking(1, 0, 2);
+        y.turns(2, 2);
+        y.rounds(1);
+        tellText(y, "sway 0 - 1");
+        due("1 is more than 0", y.told(2, 7), 0);
+        x.set(3, 1, 3);
         tellText(x, "sway f * 0 + r");
         due("sway by rounds", x.told(3, 7), 0);
         tellText(x, "sway p + 1");
@@ -527,6 +543,9 @@ public final class PromiseTest {
         x.rule(0, 99);
         x.rounds(1);
         due("white, however damp", x.conclave(2), 0);
+        SmokeVotes ten = liking(0, 1, 2, 3, 4, 5, 6, 7, 8, 9);
+        due("ten at odds", ten.rounds(1), -1);
+        due("black: 30 less 5", ten.conclave(2), 3);
         SmokeVotes y = liking(0, 0, 2, 3);
         y.turns(3, 4);
         y.set(3, 3, 99);
@@ -569,6 +588,10 @@ public final class PromiseTest {
         SmokeVotes w = liking(1, 1, 2, 2);
         w.rounds(1);
         due("nobody is chosen: none decides", w.decides(), 0);
+        SmokeVotes ten = tenLoyal();
+        ten.rounds(1);
+        due("all ten are needed by none", ten.decides(), 0);
+        due("none of ten lacks but one", ten.butOne(), 0);
     }
 
     // ---- 15
@@ -582,6 +605,11 @@ public final class PromiseTest {
         due("splits of 5 among 2", new SmokeVotes().splits(5, 2), 2);
         due("splits of 12 among 1", new SmokeVotes().splits(12, 1), 0);
         due("splits of 12 among 2", new SmokeVotes().splits(12, 2), 3);
+        SmokeVotes x = new SmokeVotes();
+        for (int times = 0; times < 3; times++) {
+            due("splits of 12 among 2, again", x.splits(12, 2), 3);
+            due("splits of 0, again", x.splits(0, 6), 0);
+        }
         int[][] bad = {{-1, 1}, {13, 1}, {1, 0}, {1, 7}, {MIN, MAX}};
         for (int[] b : bad) {
             due("splits bad", new SmokeVotes().splits(b[0], b[1]), BAD);
@@ -641,6 +669,9 @@ public final class PromiseTest {
         due("what it has then", x.won(1, 1, 1), 3);
         due("its own voters bring nothing", x.won(1, 2, 0), 1);
         due("it may be itself", liking(1, 1).won(1, 0, 0), 0);
+        due("the first that helps is not the first of all", liking(0, 0, 1, 1).won(1, 0, 0), 2);
+        due("one of ten", tenLoyal().won(40, 9, 1), 0);
+        due("the least of ten", tenLoyal().won(40, 9, 0), 0);
         due("of several the least, though none helps", liking(0, 0).won(1, 0, 0), 0);
         due("all are for it", liking(0, 0).won(1, 0, 1), 2);
         due("likes stay", x.told(0, 1), 2);
@@ -671,6 +702,13 @@ public final class PromiseTest {
         due("party 0", x.party(0), BAD);
         due("party 41", x.party(41), BAD);
         due("at odds", atOdds().party(40), NONE);
+        SmokeVotes w = liking(0, 1, 1, 1, 4);
+        w.turns(0, 2);
+        w.set(0, 2, 1);
+        w.set(1, 2, 1);
+        due("without a told party the swayed one brings it about", w.behind(2, 0), 1);
+        due("told, it stands firm", w.party(2), NONE);
+        due("ten of one party", tenLoyal().party(40), 0);
         due("nobody", new SmokeVotes().party(1), NONE);
     }
 
@@ -680,6 +718,7 @@ public final class PromiseTest {
         SmokeVotes x = liking(1, 1, 2, 2, 3, 3);
         x.rule(2, 1);
         due("dark, then white", x.smokes(2), 8);
+        due("dark", x.smokes(1), 2);
         due("and white from then on", x.smokes(4), 128);
         x.rule(0, 99);
         due("black, then white", x.smokes(12), 3 << 22);
@@ -721,6 +760,13 @@ public final class PromiseTest {
         }
         due("RUN 20 is the most", x.fits(3, 0), 20);
         due("four are white then", x.fits(3, 1), 12);
+        for (int run = 1; run <= 3; run++) {
+            for (int place = 0; place < 24; place++) {
+                x.mark(3, place, place < run ? 3 : 0);
+            }
+            due("RUN " + run, x.fits(3, 0), run);
+            due("RUN " + run + " fits", x.fits(3, 1), 0);
+        }
     }
 
     // ---- 22, 23
@@ -804,6 +850,10 @@ public final class PromiseTest {
         fault("fe 1", 0);
         fault("fees 1", 0);
         fault("  fees 1", 2);
+        fault("feez 1", 0);
+        fault("faa 1", 0);
+        fault("bee 1", 0);
+        fault("fef 1", 0);
         fault("Fee 1", 0);
         fault("1 fee", 0);
         fault("fee fee 1", 4);
@@ -909,6 +959,9 @@ public final class PromiseTest {
 
     private static void textNumbers() {
         SmokeVotes x = new SmokeVotes();
+        due("a fault at a word", tellText(x, "fee 1 2"), -106);
+        due("and nothing of it is left", tellText(x, "fee"), -103);
+        due("nor of that", tellText(x, "f"), -100);
         due("text told of none", x.textTold(0, 0), BAD);
         for (int i = 0; i < 14; i++) {
             due("text " + i, tellText(x, i % 2 == 0 ? "fine f+1*(w|!22)" : "sway f"), i);
@@ -1007,6 +1060,9 @@ public final class PromiseTest {
         due("pour again", x.pour(0), 0);
         x.sheet(1, 0, 24);
         due("pour more places than voters", x.pour(1), 3);
+        SmokeVotes ten = tenLoyal();
+        ten.sheet(0, 0, 24);
+        due("pour for ten", ten.pour(0), 10);
         due("pour missing", x.pour(2), NOTHING);
         due("pour 4", x.pour(4), BAD);
         due("pour -1", x.pour(-1), BAD);
@@ -1017,6 +1073,9 @@ public final class PromiseTest {
         x.rounds(1);
         x.sheet(0, 1, 5);
         due("0 has nothing", x.reads(0), 1);
+        x.mark(0, 0, 1);
+        due("0 has not one", x.reads(0), 0);
+        x.mark(0, 0, 0);
         x.mark(0, 1, 2);
         due("2 has one", x.reads(0), 2);
         x.mark(0, 2, NONE);

@@ -428,6 +428,14 @@ public final class EdgeAheadTest {
             y.mark(0, 4, 2);
             due("5 differs by 1, 4 by 2", y.fits(0, 0), 5);
         });
+        Edges.sentence("21: a place of NO NUMBER has its ROUND all the same", () -> {
+            SmokeVotes x = blackUntil(5, 1);
+            for (int place = 0; place < 4; place++) {
+                x.mark(0, place, Edges.NONE);
+            }
+            due("place 4 is of the fifth ROUND", x.fits(0, 0), 5);
+            due("none differs", x.fits(0, 1), 0);
+        });
         Edges.sentence("21: signs left out", () -> {
             SmokeVotes x = blackUntil(5, 1);
             x.mark(0, 0, -2);

@@ -147,6 +147,13 @@ public final class EdgeRoundsTest {
             x.rounds(1);
             due("4 and 6", x.conclave(4), 80);
         });
+        Edges.sentence("RUNNERS: but two behind a choice too", () -> {
+            SmokeVotes x = Edges.liking(0, 0, 1);
+            x.rule(2, 1);
+            due("0 is CHOSEN", x.rounds(1), 0);
+            due("0 and 1", x.conclave(4), 3);
+            due("votes by the RUNNERS", x.told(2, 7), 1);
+        });
         Edges.sentence("RUNNERS: a single VOTER", () -> {
             SmokeVotes x = Edges.liking(0);
             x.rule(2, 1);
@@ -189,6 +196,23 @@ public final class EdgeRoundsTest {
             x.rounds(1);
             due("the one with the most", x.told(5, 7), 1);
         });
+        Edges.sentence("VOTES FOR: VOTER and STRAW: whom it LIKES, whoever HAS more, whatever sway gives", () -> {
+            for (int kind : new int[] {0, 5}) {
+                SmokeVotes x = Edges.liking(1, 1, 1, 2, 3, 0);
+                for (int v = 0; v < 6; v++) {
+                    x.turns(v, kind);
+                }
+                Edges.tellText(x, "sway 0");
+                for (int n = 1; n <= 2; n++) {
+                    x.rounds(1);
+                    due("nobody is CHOSEN", x.conclave(0), Edges.NOBODY);
+                    due("1 HAS the most", x.conclave(5), 1);
+                    due("likes 2", x.told(3, 7), 2);
+                    due("likes 3", x.told(4, 7), 3);
+                    due("likes 0", x.told(5, 7), 0);
+                }
+            }
+        });
     }
 
     private static void votesOfLoyal() {
@@ -217,6 +241,16 @@ public final class EdgeRoundsTest {
             due("3 HAS one", x.told(6, 7), 3);
             x.set(3, 2, 1);
             due("none of them HAS anything: the least", x.told(6, 7), 4);
+        });
+        Edges.sentence("LOYAL: of its own PARTY the one with the most, whatever FAITH it has", () -> {
+            for (int faith : new int[] {0, 49, 50, 99}) {
+                SmokeVotes x = Edges.liking(1, 1, 2, 0, 3);
+                x.turns(3, 1);
+                x.set(3, 3, faith);
+                due("ahead of a round", x.told(3, 7), 0);
+                x.rounds(1);
+                due("1 HAS two", x.told(3, 7), 1);
+            }
         });
         Edges.sentence("LOYAL: no RUNNER of its PARTY: as VOTER", () -> {
             SmokeVotes x = Edges.liking(0, 0, 1, 1, 1, 0);
@@ -425,6 +459,16 @@ public final class EdgeRoundsTest {
                 due("DRAFT " + row[0] + ", DAMP 24", smokeOf(24 + row[1], row[0], 0, 2), 2);
                 due("DRAFT " + row[0] + ", DAMP 25", smokeOf(25 + row[1], row[0], 0, 2), 3);
             }
+        });
+        Edges.sentence("SMOKE: papers and RESIN together, DRAFT / 10 less than both", () -> {
+            due("14 of papers, less 5", smokeOf(0, 50, 7, 2), 1);
+            due("15 of papers, less 5", smokeOf(0, 50, 5, 3), 2);
+            due("27 of papers, less 3", smokeOf(0, 30, 9, 3), 2);
+            due("28 of papers, less 3", smokeOf(0, 30, 7, 4), 3);
+            due("12 of papers and 2, less 5", smokeOf(2, 50, 6, 2), 1);
+            due("12 of papers and 3, less 5", smokeOf(3, 50, 6, 2), 2);
+            due("8 of papers and 6, less 5", smokeOf(6, 50, 4, 2), 1);
+            due("8 of papers and 7, less 5", smokeOf(7, 50, 4, 2), 2);
         });
         Edges.sentence("SMOKE: DAMP is 0 at least", () -> due("0 less 9", smokeOf(0, 99, 0, 2), 1));
         Edges.sentence("SMOKE: 0 white, if somebody is CHOSEN by it, however damp", () -> {
@@ -689,6 +733,16 @@ public final class EdgeRoundsTest {
             due("HAS", x.told(0, 6), 2);
             due("CHOSEN", x.conclave(0), 0);
         });
+        Edges.sentence("12: CHOSEN stays, though more VOTERS come and more are WANTED", () -> {
+            SmokeVotes x = Edges.liking(0, 0, 1);
+            x.rounds(1);
+            due("0 by 2 of 3", x.conclave(0) + 10 * x.conclave(1), 20);
+            x.voter(0, 1, 0, 0);
+            due("2 of 4 are not enough: 3 are WANTED", x.conclave(1), 3);
+            due("0 is CHOSEN still", x.conclave(0), 0);
+            x.deal(6);
+            due("0 is CHOSEN still, of ten", x.conclave(0), 0);
+        });
         Edges.sentence("12: RUNNERS, as a set: all of ten", () -> due("ten", Edges.full().conclave(4), 1023));
         Edges.sentence("12: the one with the most; NONE: nobody HAS anything", () -> {
             SmokeVotes x = Edges.ofKind(4, 2, 1, 2);
@@ -748,6 +802,11 @@ public final class EdgeRoundsTest {
             SmokeVotes x = Edges.liking(9, 9, 9, 9, 9, 9, 0, 1, 2, 3);
             x.rounds(1);
             due("9", x.butOne(), 512);
+        });
+        Edges.sentence("13: another one than the one that is CHOSEN", () -> {
+            SmokeVotes x = Edges.liking(0, 0, 1);
+            due("0 by 2 of 3", x.rounds(1), 0);
+            due("1 HAS 1, 2 are WANTED", x.butOne(), 2);
         });
         Edges.sentence("13: nobody HAS anything", () -> {
             due("ahead of a round: 1 is WANTED of one", Edges.liking(0).butOne(), 1);
@@ -813,6 +872,16 @@ public final class EdgeRoundsTest {
             SmokeVotes x = Edges.ofKind(5, 0, 0, 0);
             x.rounds(1);
             due("6 of 6, WANTED 4", x.decides(), 0);
+        });
+        Edges.sentence("14: somebody that HAS WANTED now, though nobody is CHOSEN", () -> {
+            SmokeVotes x = Edges.liking(0, 0, 0, 1);
+            x.turns(3, 5);
+            due("3 of 5: 4 are WANTED", x.rounds(1), Edges.NOBODY);
+            due("none yet", x.decides(), 0);
+            x.turns(3, 0);
+            due("3 of 4: 3 are WANTED", x.conclave(1), 3);
+            due("each of the three", x.decides(), 7);
+            due("nobody is CHOSEN by that", x.conclave(0), Edges.NOBODY);
         });
         Edges.sentence("14: the last VOTER", () -> {
             SmokeVotes x = Edges.liking(0, 1, 2, 9, 9, 9, 9, 9, 9, 9);
